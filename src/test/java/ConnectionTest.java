@@ -23,20 +23,26 @@ public final class ConnectionTest {
         String[] begun = {"X", "X /", "G / H1\r", Probe.GET, Probe.GET + "y:", Probe.GET + "len:2\r\n",
             Probe.GET + "len:2\r\n\r\nz", Probe.GET + "chunked:yes\r\n", Probe.GET + "chunked:yes\r\n\r\n1",
             Probe.GET + "chunked:yes\r\n\r\n28\r\nz", Probe.GET + "chunked:yes\r\n\r\n1\r\nz\r", "\n"};
+        String body = Probe.times("b", 40);
+        String chunks = "A / H1\r\nchunked:yes\r\n\r\n28\r\n" + body + "\r\n0\r\n\r\n";
         for (String text : begun) {
-            Probe p = new Probe();
-            p.stub(0, 200, "{m}{b}{hy}");
             for (int c = 0; c < 3; c++) {
+                Probe p = new Probe();
+                p.stub(0, 200, "{m}{b}{hy}");
                 p.send(c, text);
                 Probe.due("open(" + c + ")", p.server.open(c), true);
                 Probe.due("isOpen(" + c + ")", p.server.isOpen(c), true);
                 Probe.due("size(" + c + ")", p.server.size(c), 0);
                 Probe.due("at(" + c + ", 0)", p.server.at(c, 0), -1);
                 Probe.due("new behind " + Probe.shown(text), p.answer(c, Probe.GET + "\r\n"), "200 1\nG");
-                String chunks = "A / H1\r\nchunked:yes\r\n\r\n2\r\nab\r\n0\r\n\r\n";
-                Probe.due("and new again", p.answer(c, chunks), "200 3\nAab");
+                Probe.due("and new again", p.answer(c, chunks), "200 41\nA" + body);
+                Probe.due("and again", p.answer(c, chunks), "200 41\nA" + body);
+                p.server.open(c);
+                p.send(c, text);
+                p.server.open(c);
+                Probe.due("chunks at once", p.answer(c, chunks), "200 41\nA" + body);
+                Probe.due("only these are served", p.server.served(), 4);
             }
-            Probe.due("only these are served", p.server.served(), 6);
         }
         Probe p = new Probe();
         p.answer(1, Probe.GET + "\r\n");

@@ -36,6 +36,11 @@ public final class TemplateTest {
         filled("{q{m}", "");
         filled("{h{m}}", "}");
         filled("{qk }x", "x");
+        filled("{hk}", "");
+        filled("{qlen}", "");
+        Probe p = new Probe();
+        p.stub(0, 200, "{qx}{hx}");
+        Probe.due("a parameter and a header of one name", p.ask("G /?x=1 H1\r\nx:2\r\n\r\n"), "200 2\n12");
     }
 
     private static void otherBraces() {
