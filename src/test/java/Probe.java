@@ -1,3 +1,6 @@
+import java.io.IOException;
+import java.nio.file.Files;
+import java.nio.file.Path;
 import java.util.Objects;
 
 /** A server that is spoken to in texts, and the count of the answers that were not as due. */
@@ -12,13 +15,21 @@ final class Probe {
     static final int FITS = 2;
     static final int ABSENT = 3;
     static final int PRESENT = 4;
+    static final int LOWEST = Integer.MIN_VALUE;
+    static final int HIGHEST = Integer.MAX_VALUE;
     static final String GET = "G / H1\r\n";
-
-    private static int looked = 0;
-    private static int wrong = 0;
+    static final String REQUEST = GET + "\r\n";
 
     // Behind so many calls the document leaves free what an object answers.
     private static final int MOST_CALLS = 512;
+
+    private static final Path DOCUMENT = Path.of("..", "shared", "DOC.md");
+    private static String document = null;
+    private static String heading = "";
+    private static int sentences = 0;
+    private static int looked = 0;
+    private static int lookedBefore = 0;
+    private static int wrong = 0;
 
     final StubServer server = new StubServer();
     private int calls = 0;
@@ -30,16 +41,62 @@ final class Probe {
         }
     }
 
+    /**
+     * From here on the answers are about these words of the document. They must stand there, so that
+     * no test goes on for a sentence that the document no longer has.
+     */
+    static void sentence(String where, String words) {
+        endSentence();
+        heading = where + ", \"" + words + "\": ";
+        sentences++;
+        if (!section(where).contains(words)) {
+            wrong++;
+            System.out.println(heading + "the document has no such sentence there");
+        }
+    }
+
+    private static void endSentence() {
+        if (sentences > 0 && looked == lookedBefore) {
+            wrong++;
+            System.out.println(heading + "no answer was looked at");
+        }
+        lookedBefore = looked;
+    }
+
+    /** Where is a promise ("Promise 2"), a term ("Term LINE"), or the title of a section. */
+    private static String section(String where) {
+        String title = where.startsWith("Term ") ? "Terms" : where;
+        for (String section : document().split("(^|\n)## ")) {
+            boolean found = section.startsWith(title + ":") || section.startsWith(title + "\n");
+            if (found && (!where.startsWith("Term ") || section.contains(where.substring(5)))) {
+                return section.replaceAll("\\s+", " ");
+            }
+        }
+        return "";
+    }
+
+    private static String document() {
+        if (document == null) {
+            try {
+                document = Files.readString(DOCUMENT);
+            } catch (IOException missing) {
+                throw new IllegalStateException("there is no " + DOCUMENT, missing);
+            }
+        }
+        return document;
+    }
+
     static void due(String what, Object got, Object want) {
         looked++;
         if (!Objects.equals(got, want)) {
             wrong++;
-            System.out.println(what + " answered " + shown(got) + ", due is " + shown(want));
+            System.out.println(heading + what + " answered " + shown(got) + ", due is " + shown(want));
         }
     }
 
     static void end() {
-        System.out.println(looked + " answers, " + wrong + " not as due");
+        endSentence();
+        System.out.println(sentences + " sentences, " + looked + " answers, " + wrong + " not as due");
         if (wrong > 0) {
             System.exit(1);
         }
@@ -111,16 +168,29 @@ final class Probe {
     }
 
     boolean match(int part, int way, String typed) {
+        countCall();
         return type(typed) && server.match(part, way);
     }
 
     int stub(int priority, int status, String template) {
+        countCall();
         return type(template) ? server.stub(priority, status) : -9;
     }
 
     /** For how many requests of the journal one matcher holds; -9 if there is no such matcher. */
     int counted(int part, int way, String typed) {
+        countCall();
         return match(part, way, typed) ? server.count() : -9;
+    }
+
+    /** What is typed; it and the draft are used up, it for a stub that goes before all others. */
+    String typed() {
+        countCall();
+        server.count();
+        countCall();
+        server.stub(0, 200);
+        String response = ask(REQUEST);
+        return response.substring(response.indexOf('\n') + 1);
     }
 
     /** What refusing the text answered, and at which of its bytes: "400@12"; "open" if it was not. */
@@ -141,12 +211,17 @@ final class Probe {
         String want = status + "@" + text.length();
         due("refusing " + shown(text), refusal(text), want);
         due("refusing at once " + shown(text), refusal(text + "zz"), want);
-        String before = refusal(text.substring(0, text.length() - 1));
-        due("not before its last byte " + shown(text), before.equals("open") || before.equals("served"), true);
+        due("not before its last byte " + shown(text), refusal(text.substring(0, text.length() - 1)), "open");
     }
 
+    /** Served at the last byte of this, and not before. */
     static void dueServed(String text) {
         due("serving " + shown(text), refusal(text), "served");
         due("not before its last byte " + shown(text), refusal(text.substring(0, text.length() - 1)), "open");
+    }
+
+    /** Neither served nor refused so far. */
+    static void dueOpen(String text) {
+        due("reading " + shown(text), refusal(text), "open");
     }
 }
