@@ -156,7 +156,8 @@ public final class PatternTest {
         fitsAll("[ab][cd]", "ac", "bd");
         fitsNone("[ab][cd]", "ab", "cd", "a", "c");
         fitsAll("[" + Probe.times("z", 37) + "y]", "y", "z");
-        String[] bad = {"[", "]", "a]", "[a", "[[]", "[a[b]]", "[]]", "[a]]", "a[", "x[*", "a|[", "ab]c", "[a][", "[a|b", "a]|b"};
+        String[] bad = {"[", "]", "a]", "[a", "[[]", "[a[b]]", "[]]", "[a]]", "a[", "x[*", "a|[", "ab]c", "[a][", "[a|b", "a]|b", "[a[",
+            "[a[b", "[a[*", "x[ab[", "[[", "[a]b[c["};
         for (String text : bad) {
             pattern(text, false);
         }

@@ -20,6 +20,10 @@ final class Probe {
     static final String GET = "G / H1\r\n";
     static final String REQUEST = GET + "\r\n";
 
+    // A request that has as much of everything as one may have.
+    private static final String LARGEST = "PUTPUTP /p?a=1&b=2&c=3&d=aaaaaaaaaaaa H1\r\nx:1\r\ny:2\r\nz:" + times("z", 30)
+            + "\r\nchunked:yes\r\n\r\n28\r\n" + times("b", 40) + "\r\n0\r\n\r\n";
+
     // Behind so many calls the document leaves free what an object answers.
     private static final int MOST_CALLS = 512;
 
@@ -56,10 +60,11 @@ final class Probe {
     }
 
     private static void endSentence() {
-        if (sentences > 0 && looked == lookedBefore) {
+        if (!heading.isEmpty() && looked == lookedBefore) {
             wrong++;
             System.out.println(heading + "no answer was looked at");
         }
+        heading = "";
         lookedBefore = looked;
     }
 
@@ -193,15 +198,31 @@ final class Probe {
         return response.substring(response.indexOf('\n') + 1);
     }
 
-    /** What refusing the text answered, and at which of its bytes: "400@12"; "open" if it was not. */
+    /**
+     * What reading the text led to: "open", "served", or how and at which byte it was refused: "400@12".
+     * It must be the same at any connection, whatever this one read before.
+     */
     static String refusal(String text) {
-        Probe probe = new Probe();
-        int read = probe.send(0, text);
-        if (probe.server.isOpen(0)) {
-            return probe.server.size(0) == 0 ? "open" : "served";
+        String first = new Probe().outcome(0, text);
+        Probe used = new Probe();
+        used.send(1, LARGEST);
+        due("as the second request: " + shown(text), used.outcome(1, text), first);
+        Probe opened = new Probe();
+        opened.send(2, LARGEST.substring(0, LARGEST.length() - 1));
+        opened.server.open(2);
+        due("behind open: " + shown(text), opened.outcome(2, text), first);
+        return first;
+    }
+
+    private String outcome(int c, String text) {
+        int servedBefore = server.served();
+        int read = send(c, text);
+        int served = server.served() - servedBefore;
+        if (server.isOpen(c)) {
+            return served == 0 ? "open" : "served";
         }
-        due("refused, so not served: " + shown(text), probe.server.served(), 0);
-        String response = probe.response(0);
+        String response = response(c);
+        due("refused, so not served: " + shown(text), served, 0);
         due("refused without body: " + shown(text), response.substring(3), " 0\n");
         return response.substring(0, 3) + "@" + read;
     }

@@ -90,6 +90,13 @@ public final class RequestLineTest {
         Probe.due("the shortest", p.ask("G /?b=/?/ H1\r\n\r\n"), "200 1\n/");
         Probe.due("the shortest of all", p.ask("G / H1\r\n\r\n"), "200 1\n/");
         Probe.due("a ? told by its code", p.ask("G /a%3Fb?c H1\r\n\r\n"), "200 4\n/a?b");
+        String[] withoutMark = {"/&", "/&&", "/=", "/a&=b&", "/a&b&c&d&e&f"};
+        for (String target : withoutMark) {
+            target(target, true);
+            Probe.due("all of " + target, p.ask("G " + target + " H1\r\n\r\n"), "200 " + target.length() + "\n" + target);
+            Probe.due("no parameter in " + target, p.counted(Probe.PARAMETER, Probe.PRESENT, target), 0);
+        }
+        Probe.due("no parameter", p.counted(Probe.PARAMETER, Probe.PRESENT, "/"), 0);
         Probe.due("the longest", p.ask("G /" + Probe.times("p", 34) + " H1\r\n\r\n"), "200 35\n/" + Probe.times("p", 34));
     }
 
