@@ -161,7 +161,7 @@ public final class SceneTest {
         }
         for (int scenario = 5; scenario >= -3; scenario--) {
             boolean good = scenario >= 0 && scenario <= 2;
-            Probe.due("scenario " + scenario, p.server.scene(0, scenario, 0, scenario + 1), good);
+            Probe.due("scenario " + scenario, p.server.scene(0, scenario, 0, 1), good);
         }
         Probe.due("the scene of the last good one stayed", p.ask(REQUEST), "200 0\n");
         Probe.due("state(0)", p.server.state(0), 1);
